@@ -241,7 +241,8 @@ public final class SaidSo {
     public int together() {
         now.findFoes();
         int best = 0;
-        for (int set = 1; now.tellers.areThere(set); set++) {
+        int sets = 1 << now.tellers.many;
+        for (int set = 1; set < sets; set++) {
             if (Integer.bitCount(set) > Integer.bitCount(best) && now.goTogether(set)) {
                 best = set;
             }
@@ -1557,7 +1558,11 @@ public final class SaidSo {
             notMayCome = true;
             boolean good = true;
             for (int i = 0; i <= MOST_BYTES && good && !formulaEnds(); i++) {
-                good = valueIsDue ? readValue(formula) : readSign(formula);
+                if (valueIsDue) {
+                    good = readValue(formula);
+                } else {
+                    good = text.kind == Tokens.CLOSE ? readClose(formula) : readSign(formula);
+                }
             }
             release(formula, OR_RANK);
             return good;
@@ -1601,9 +1606,11 @@ public final class SaidSo {
 
         private boolean readClose(Formula formula) {
             release(formula, OR_RANK);
-            if (holds > 0) {
-                holds--;
+            // What is left on top is the '(' that this one closes.
+            if (open == 0 || holds == 0) {
+                return wrong(BAD_TOKEN);
             }
+            holds--;
             open--;
             text.step();
             return true;
@@ -1611,15 +1618,12 @@ public final class SaidSo {
 
         private boolean readSign(Formula formula) {
             int kind = text.kind;
-            if (kind == Tokens.CLOSE && open > 0) {
-                return readClose(formula);
-            }
             int rank = rankOf(kind);
             if (rank == 0 || rank == NOT_RANK) {
                 return wrong(BAD_TOKEN);
             }
             release(formula, rank == COMPARE_RANK ? SUM_RANK : rank);
-            if (rank == COMPARE_RANK && topRank() == COMPARE_RANK) {
+            if (rank == COMPARE_RANK && holds > 0 && rankOf(held[holds - 1]) == COMPARE_RANK) {
                 return wrong(BAD_TOKEN);
             }
             valueIsDue = true;
@@ -1645,13 +1649,9 @@ public final class SaidSo {
             return true;
         }
 
-        private int topRank() {
-            return holds > 0 ? rankOf(held[holds - 1]) : 0;
-        }
-
         /** Signs of a rank and of tighter ones have all that they work on, back to the last '(' open. */
         private void release(Formula formula, int rank) {
-            while (holds > 0 && topRank() >= rank) {
+            while (holds > 0 && rankOf(held[holds - 1]) >= rank) {
                 holds--;
                 formula.add(held[holds]);
             }

@@ -169,6 +169,9 @@ final class CourtTest {
         names(TALK, 0, 1, 199, 17, 3, 0, 1, 1, 2, 1, 2, 0, 0);
         names(TALK, 0, 1, 7, 17, 3, 0, 1, 1, 1, 1, 1, 0, 0);
         names(TALK, 1, 1, 199, 18, 0, 0, 0, 0, 0, 0, 0, 0, 0);
+        // What is said in the very hour of the tape is on it.
+        names("thing a 4 is 2;teller p 9 begins 3 ends 9 tape 6;ask p 5 a;say p 5 a 2;ask p 6 a;say p 6 a 1;say p 6 a 2;",
+                0, 1, 199, 9, 3, 0, 1, 0, 0, 1, 0, 0, 0);
     }
 
     private static int next(int last) {
@@ -200,6 +203,7 @@ final class CourtTest {
             good += said == 2 ? 1 : 0;
             Check.due("draws(0, 3, " + i + ") by law 30", x.draws(0, 3, i), good);
         }
+        Check.due("the first line of all", Check.told("thing a 4 is 2;teller p 9 begins 0 ends 9;ask p 0 a 2;say p 0 a 2;law 100;").draws(0, 3, 99), 99);
         x = Check.told(put.replace("say p 1 a 2;", "ask p 1 a 1;say p 1 a 2;") + "law 100;");
         Check.due("the latest put is wrong", x.draws(0, 3, 99), 0);
         x = Check.told(put.replace("say p 1 a 2;", "say p 1 a 1;ask p 1 a 1;") + "law 100;");
@@ -213,6 +217,8 @@ final class CourtTest {
         Check.due("draws(0, 0, 100)", x.draws(0, 0, 100), -1);
         Check.due("draws(1, 0, 1)", x.draws(1, 0, 1), -1);
         Check.due("draws(-1, 0, 1)", x.draws(-1, 0, 1), -1);
+        Check.due("draws(0, 0, 1)", x.draws(0, 0, 1), next(0) / 65536 % 4 == 2 ? 1 : 0);
+        Check.due("draws(0, 0, 99)", x.draws(0, 0, 99) > 0, true);
         int high = next(Integer.MAX_VALUE) / 65536 % 4 == 2 ? 1 : 0;
         Check.due("draws(0, the highest seed, 1)", x.draws(0, Integer.MAX_VALUE, 1), high);
         x.hear(0);

@@ -26,6 +26,9 @@ final class OddsTest {
         odds(x, 0, 0, 18, 5);
         Check.due("truth(1)", x.truth(1), true);
         odds(x, 0, 0, 2, 5);
+        Check.due("truth(9)", x.truth(9), true);
+        odds(x, 0, 0, 18, 5);
+        Check.due("truth(1)", x.truth(1), true);
         Check.due("begin(99, 33)", x.begin(99, 33), true);
         odds(x, 0, 0, 6, 5);
         Check.due("begin(1, 99)", x.begin(1, 99), true);

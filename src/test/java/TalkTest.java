@@ -172,6 +172,8 @@ final class TalkTest {
         x = Check.told(things + "teller p 9 begins 5 ends 9 tape 5;say p 8 a 2;say p 8 c 3;");
         Check.due("all on tape", x.word(0), RIGHT | FIRST | CLEAN);
         Check.due("all on tape, known long ahead", x.word(1), RIGHT | FIRST | CLEAN);
+        x = Check.told(things + "teller p 9 begins 5 ends 9 tape 6;say p 5 c 3;");
+        Check.due("known in the one hour off tape", x.word(0), RIGHT | FIRST | OFF);
         x = Check.told(things + "teller p 9 begins 5 ends 9;say p 6 b 1;say p 7 a 2;say p 9 b 1;");
         Check.due("never taped, not known yet", x.word(0), RIGHT | FIRST | NEW | CLEAN);
         Check.due("never taped", x.word(1), RIGHT | FIRST | OFF);

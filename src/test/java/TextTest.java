@@ -13,6 +13,7 @@ final class TextTest {
         notTold();
         tooEarly();
         firstFaultOnly();
+        cutOff();
         formulas();
         knots();
         names();
@@ -230,6 +231,7 @@ final class TextTest {
 
     private static void tooEarly() {
         fault(THING + TELLER + "ask p 7 a;say p 6 a 1;", 5, 58);
+        fault(THING + TELLER + "ask p 6 a;say p 5 a 1;", 5, 58);
         fault(THING + TELLER + "ask p 7 a;say p 4 a 1;", 2, 58);
         good(THING + TELLER + "ask p 7 a;say p 7 a 1;");
         good(THING + TELLER + "teller q 9 begins 5 ends 8;ask p 7 a;ask q 5 a;say p 7 a 1;say q 6 a 1;");
@@ -241,6 +243,28 @@ final class TextTest {
         fault("ask p 999999 a; thing a", 4, 4);
         fault("law 1000 1000;", 2, 4);
         fault("law 1 1000;", 1, 6);
+    }
+
+    /** What is fed behind the text doesn't count, though it would go on with its last token. */
+    private static void cutOff(String all, int n, int place) {
+        SaidSo x = new SaidSo();
+        Check.feed(x, all);
+        Check.due("tell(" + n + ") of '" + all + "'", x.tell(n), -1);
+        Check.due("fault of it", x.fault(0), 1);
+        Check.due("place of it", x.fault(1), place);
+    }
+
+    private static void cutOff() {
+        cutOff("thing ab 2 is 0;", 7, 7);
+        cutOff("thing abcdefg 2 is 0;", 12, 12);
+        cutOff("thing a 9 is 12;", 14, 14);
+        cutOff("law 1<=2;", 6, 6);
+        cutOff("law 1<>2;", 6, 6);
+        cutOff("law 1>=2;", 6, 6);
+        cutOff("law 1;  !;", 9, 8);
+        fault(";".repeat(800), 1, 0);
+        fault("law " + "(".repeat(796), 2, 12);
+        fault("law 1" + ";".repeat(795), 1, 6);
     }
 
     private static void formulas() {
@@ -286,6 +310,8 @@ final class TextTest {
         }
         SaidSo x = new SaidSo();
         Check.due("63 knots", Check.tell(x, text + ";bar (((1)));"), 2);
+        Check.due("knots", x.count(5), 64);
+        Check.due("all held at once", Check.tell(x, "law " + "not ".repeat(63) + "((((((((1)))))))) ;"), 1);
         Check.due("knots", x.count(5), 64);
         fault(text + ";bar 1+;", 2, text.length() + 6);
         fault(text + ";bar not 1;", 2, text.length() + 9);
