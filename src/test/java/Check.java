@@ -4,15 +4,26 @@ import java.nio.charset.StandardCharsets;
 final class Check {
     private static int made = 0;
     private static int wrong = 0;
+    private static String sentence = "";
 
     private Check() {
+    }
+
+    /** The sentence of the document, ahead of its promises, that the checks behind this are of; QuoteTest looks it up. */
+    static void sentence(String quote) {
+        sentence = " [" + quote + "]";
+    }
+
+    /** The same, for a sentence of a promise. */
+    static void promise(int number, String quote) {
+        sentence = " [promise " + number + ": " + quote + "]";
     }
 
     static void due(String call, long got, long want) {
         made++;
         if (got != want) {
             wrong++;
-            System.out.println(call + " answered " + got + ", due is " + want);
+            System.out.println(call + " answered " + got + ", due is " + want + sentence);
         }
     }
 
@@ -48,6 +59,23 @@ final class Check {
             due("fault of '" + text + "' at " + x.fault(1), x.fault(0), 0);
         }
         return x;
+    }
+
+    /** Tells a text that has no FAULT and so many LINES. */
+    static void good(int lines, String text) {
+        SaidSo x = new SaidSo();
+        due("tell '" + text + "'", tell(x, text), lines);
+        due("fault of '" + text + "'", x.fault(0), 0);
+        due("its place", x.fault(1), -1);
+    }
+
+    /** Tells a text with a FAULT. A '^' shows its place, and isn't in the text. */
+    static void fault(int fault, String marked) {
+        SaidSo x = new SaidSo();
+        String text = marked.replaceFirst("\\^", "");
+        due("tell '" + marked + "'", tell(x, text), -1);
+        due("fault of '" + marked + "'", x.fault(0), fault);
+        due("its place", x.fault(1), marked.indexOf('^'));
     }
 
     static int letters(String name) {
