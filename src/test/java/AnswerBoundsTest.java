@@ -175,6 +175,15 @@ final class AnswerBoundsTest {
             Check.due("story(1, " + thing + ")", x.story(1, thing), -2);
         }
         Check.due("story(2, 2)", x.story(2, 2), -2);
+        // As many things as there may be and one teller, and the other way about.
+        x = Check.told(Check.each("thing ", 'a', 8, " 2 is 0;") + "teller p 9 begins 0 ends 9;");
+        Check.due("story(0, 7)", x.story(0, 7), -1);
+        Check.due("story(0, 8)", x.story(0, 8), -2);
+        Check.due("story(1, 0)", x.story(1, 0), -2);
+        x = Check.told("thing a 2 is 0;" + FIVE);
+        Check.due("story(4, 0)", x.story(4, 0), -1);
+        Check.due("story(5, 0)", x.story(5, 0), -2);
+        Check.due("story(0, 1)", x.story(0, 1), -2);
     }
 
     private static void clash() {
@@ -205,17 +214,12 @@ final class AnswerBoundsTest {
 
     private static void together() {
         Check.promise(23, "TOGETHER (bits).");
-        String text = "thing a 9 is 2;";
-        Check.due("none", Check.told(text).together(), 0);
-        int[] want = {1, 3, 7, 15, 31};
-        String[] tellers = FIVE.split("(?<=;)");
-        for (int i = 0; i < 5; i++) {
-            text += tellers[i];
-            Check.due("as many as there are", Check.told(text).together(), want[i]);
+        for (int many = 0; many <= 5; many++) {
+            Check.due("as many as there are", Check.told(Check.each("teller ", 'p', many, " 9 begins 0 ends 9;")).together(), (1 << many) - 1);
         }
-        SaidSo x = Check.told(text + "say q 1 a 1;say t 2 a 2;say s 3 a 3;");
+        SaidSo x = Check.told("thing a 9 is 2;" + FIVE + "say q 1 a 1;say t 2 a 2;say s 3 a 3;");
         int[] heard = {31, 31, 15, 7};
-        for (int hour = 0; hour < 4; hour++) {
+        for (int hour : new int[] {0, 1, 2, 3, 1, 3, 0}) {
             x.hear(hour);
             Check.due("together(), heard up to " + hour, x.together(), heard[hour]);
         }
@@ -234,10 +238,8 @@ final class AnswerBoundsTest {
 
     private static void liesNone() {
         Check.promise(24, "NONE: bits of no TELLERS.");
-        String text = "thing a 9 is 2;";
-        String[] tellers = FIVE.split("(?<=;)");
         for (int many = 0; many <= 5; many++) {
-            SaidSo x = Check.told(text);
+            SaidSo x = Check.told("thing a 9 is 2;" + Check.each("teller ", 'p', many, " 9 begins 0 ends 9;"));
             Check.due("nobody", x.lies(0), 0);
             Check.due("all of " + many, x.lies((1 << many) - 1), 0);
             Check.due("one more than " + many, x.lies(1 << many), -1);
@@ -245,7 +247,6 @@ final class AnswerBoundsTest {
             for (int set : new int[] {-1, -2, 32, 64, 1 << 30, MIN, MAX, MIN | 1}) {
                 Check.due("lies(" + set + ")", x.lies(set), -1);
             }
-            text += many < 5 ? tellers[many] : "";
         }
     }
 
@@ -326,6 +327,8 @@ final class AnswerBoundsTest {
         }
         Check.due("draws(0, 0, 1)", x.draws(0, 0, 1), 1);
         Check.due("draws(1, MAX, 99)", x.draws(1, MAX, 99), 99);
+        Check.due("the fifth", Check.told(FIVE).draws(4, 0, 7), 7);
+        Check.due("of two things and one teller", Check.told(HEAD + "thing b 2 is 0;").draws(1, 0, 7), -1);
     }
 
     private static void barred() {
@@ -340,11 +343,7 @@ final class AnswerBoundsTest {
         Check.promise(28, "NONE: no such TELLER.");
         Check.due("without a case", new SaidSo().barred(0), -1);
         for (int many = 0; many <= 5; many++) {
-            StringBuilder text = new StringBuilder("bar 1;");
-            for (int i = 0; i < many; i++) {
-                text.append("teller ").append((char) ('p' + i)).append(" 9 begins 0 ends 9;");
-            }
-            SaidSo x = Check.told(text.toString());
+            SaidSo x = Check.told("bar 1;" + Check.each("teller ", 'p', many, " 9 begins 0 ends 9;"));
             Check.due("the last of " + many, x.barred(many - 1), many == 0 ? -1 : 1);
             for (int teller : noTellers(many)) {
                 Check.due("barred(" + teller + ")", x.barred(teller), -1);
@@ -390,16 +389,14 @@ final class AnswerBoundsTest {
 
     private static void thereNone() {
         Check.promise(30, "NONE: bits of no TELLERS.");
-        StringBuilder text = new StringBuilder("jury 0;");
         for (int many = 0; many <= 5; many++) {
-            SaidSo x = Check.told(text.toString());
+            SaidSo x = Check.told("jury 0;" + Check.each("teller ", 'p', many, " 9 begins 0 ends 9;"));
             int all = (1 << many) - 1;
             Check.due("all of " + many, x.there(all), many);
             for (int set : new int[] {1 << many, all | 1 << many, -1, -2, 32, 33, 1 << 30, MIN, MIN | 1, MAX}) {
                 Check.due("there(" + set + ")", x.there(set), -1);
                 Check.due("they were there still", x.found(0, 1), all);
             }
-            text.append("teller ").append((char) ('p' + many)).append(" 9 begins 0 ends 9;");
         }
     }
 
@@ -473,17 +470,11 @@ final class AnswerBoundsTest {
 
     private static void countMost() {
         Check.promise(32, "2 TALK LINES in all, 3 those HEARD");
-        StringBuilder text = new StringBuilder();
-        for (char c = 'a'; c < 'i'; c++) {
-            text.append("thing ").append(c).append(" 2is0;");
-        }
-        for (char c = 'a'; c < 'f'; c++) {
-            text.append("teller ").append(c).append(" 9begins0ends0;");
-        }
         // Eight hundred bytes to the last one.
-        text.append("ask a0a;".repeat(40)).append("page a a0;".repeat(20)).append("law1").append("+1".repeat(28)).append(';');
+        String text = Check.each("thing ", 'a', 8, " 2is0;") + Check.each("teller ", 'a', 5, " 9begins0ends0;")
+                + "ask a0a;".repeat(40) + "page a a0;".repeat(20) + "law1" + "+1".repeat(28) + ";";
         Check.due("bytes", text.length(), 800);
-        SaidSo x = Check.told(text.toString());
+        SaidSo x = Check.told(text);
         for (int i = 0; i < 20; i++) {
             x.say(true, 0, 0, 0, 0);
         }

@@ -1,5 +1,3 @@
-import java.util.NoSuchElementException;
-
 /** Boundary cases of promises 1 to 16, each argument at its bounds and beyond them. */
 final class CallBoundsTest {
     private static final int MIN = Integer.MIN_VALUE;
@@ -61,7 +59,7 @@ final class CallBoundsTest {
         Check.due("fault(1)", x.fault(1), -1);
         Check.due("named(0, 0)", x.named(0, 0), -1);
         Check.due("named(1, 0)", x.named(1, 0), -1);
-        Check.due("look(0, 0)", thrown(x, 0, 0), 1);
+        Check.due("look(0, 0)", Check.looked(x, 0, 0), -10);
         Check.due("teller(0, 0)", x.teller(0, 0), -1);
         Check.due("line(0, 0)", x.line(0, 0), -2);
         Check.due("say", x.say(true, 0, 0, 0, 0), -1);
@@ -84,10 +82,12 @@ final class CallBoundsTest {
         Check.due("draws(0, 0, 1)", x.draws(0, 0, 1), -1);
         Check.due("barred(0)", x.barred(0), -1);
         Check.due("jury(0, 0)", x.jury(0, 0), -1);
+        for (int by = 0; by < 3; by++) {
+            Check.due("found(" + by + ", 0)", x.found(by, 0), 0);
+            Check.due("found(" + by + ", 1)", x.found(by, 1), 0);
+        }
         Check.due("there(0)", x.there(0), 0);
         Check.due("there(1)", x.there(1), -1);
-        Check.due("found(0, 0)", x.found(0, 0), 0);
-        Check.due("found(2, 1)", x.found(2, 1), 0);
         Check.due("tell(1)", x.tell(1), -2);
         Check.due("hear(199)", x.hear(199), 0);
         Check.due("tell(0)", x.tell(0), 0);
@@ -231,6 +231,17 @@ final class CallBoundsTest {
         // TRUTH and the ODDS to begin with are none of the CASE: 3 to 5 times 1 times 4 by 10.
         Check.due("for", x.odds(0, 0, 0), 6);
         Check.due("against", x.odds(0, 0, 1), 25);
+        // However often a case comes, whatever was done with those ahead of it.
+        for (int i = 0; i < 5; i++) {
+            x.there(1);
+            x.hear(0);
+            x.say(true, 0, 8, 0, 1);
+            Check.tell(x, i % 2 == 0 ? HEAD + "jury 0;" : HEAD + "say p 6 a 2;jury 0;");
+            Check.due("all heard", x.count(6), 199);
+            Check.due("nobody there", x.found(0, 1), 0);
+            Check.due("no lines by say()", x.count(7), 0);
+            Check.due("lines", x.count(2), i % 2);
+        }
     }
 
     private static void tellFault() {
@@ -347,16 +358,6 @@ final class CallBoundsTest {
         Check.due("a teller of the text ahead", x.named(1, a), -1);
     }
 
-    /** 0: it answers; else 1 for an IndexOutOfBoundsException, 2 for a NoSuchElementException, of just this class. */
-    private static int thrown(SaidSo x, int thing, int what) {
-        try {
-            x.look(thing, what);
-            return 0;
-        } catch (IndexOutOfBoundsException | NoSuchElementException e) {
-            return e.getClass() == IndexOutOfBoundsException.class ? 1 : e.getClass() == NoSuchElementException.class ? 2 : 3;
-        }
-    }
-
     private static void look() {
         Check.promise(6, "Of a THING, what 0: WAYS, 1: what it IS, 2: PAPER, 3: POLICE (NONE: never).");
         SaidSo x = Check.told("thing a 2 is 1;thing b 9 is 8 paper 0 police 199;thing c 3 is 0 police 7;thing d 4 is 0 paper 7;");
@@ -370,31 +371,29 @@ final class CallBoundsTest {
 
     private static void lookThing() {
         Check.promise(6, "IndexOutOfBoundsException: no such THING.");
-        Check.due("without a case", thrown(new SaidSo(), 0, 0), 1);
-        StringBuilder text = new StringBuilder();
+        Check.due("without a case", Check.looked(new SaidSo(), 0, 0), -10);
         for (int many = 1; many <= 8; many++) {
-            text.append("thing ").append((char) ('a' + many - 1)).append(" 2 is 0;");
-            SaidSo x = Check.told(text.toString());
-            Check.due("the last", thrown(x, many - 1, 0), 0);
-            Check.due("one more", thrown(x, many, 0), 1);
+            SaidSo x = Check.told(Check.each("thing ", 'a', many, " 2 is 0;"));
+            Check.due("the last", Check.looked(x, many - 1, 0), 2);
+            Check.due("one more", Check.looked(x, many, 0), -10);
         }
-        SaidSo x = Check.told(text.toString());
+        SaidSo x = Check.told(Check.each("thing ", 'a', 8, " 2 is 0;"));
         for (int thing : new int[] {-1, 8, 9, MIN, MAX}) {
-            Check.due("look(" + thing + ", 0)", thrown(x, thing, 0), 1);
-            Check.due("look(" + thing + ", 3)", thrown(x, thing, 3), 1);
+            Check.due("look(" + thing + ", 0)", Check.looked(x, thing, 0), -10);
+            Check.due("look(" + thing + ", 3)", Check.looked(x, thing, 3), -10);
         }
         x.tell(0);
-        Check.due("a thing of the text ahead", thrown(x, 0, 0), 1);
+        Check.due("a thing of the text ahead", Check.looked(x, 0, 0), -10);
     }
 
     private static void lookWhat() {
         Check.promise(6, "NoSuchElementException: no such what.");
         SaidSo x = Check.told("thing a 2 is 0;");
         for (int what : new int[] {-1, 4, 5, MIN, MAX}) {
-            Check.due("look(0, " + what + ")", thrown(x, 0, what), 2);
+            Check.due("look(0, " + what + ")", Check.looked(x, 0, what), -11);
         }
-        Check.due("look(0, 0)", thrown(x, 0, 0), 0);
-        Check.due("look(0, 3)", thrown(x, 0, 3), 0);
+        Check.due("look(0, 0)", Check.looked(x, 0, 0), 2);
+        Check.due("look(0, 3)", Check.looked(x, 0, 3), -1);
     }
 
     private static void teller() {
@@ -690,7 +689,11 @@ final class CallBoundsTest {
         }
         for (int teller : new int[] {-1, 1, 5, MIN, MAX}) {
             Check.due("words(" + teller + ", 1)", x.words(teller, 1), -1);
+            Check.due("words(" + teller + ", 1), eight things", Check.told(HEAD + Check.each("thing x", 'a', 7, " 2 is 0;")).words(teller, 1), -1);
         }
+        x = Check.told(Check.each("teller ", 'a', 5, " 9 begins 0 ends 9;"));
+        Check.due("the fifth", x.words(4, 1), 0);
+        Check.due("a sixth", x.words(5, 1), -1);
     }
 
     private static void truth() {

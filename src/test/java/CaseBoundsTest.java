@@ -35,25 +35,17 @@ final class CaseBoundsTest {
         Check.end();
     }
 
-    private static String many(String head, char first, int many, String tail) {
-        StringBuilder text = new StringBuilder();
-        for (int i = 0; i < many; i++) {
-            text.append(head).append((char) (first + i)).append(tail);
-        }
-        return text.toString();
-    }
-
     private static void manyThings() {
         Check.sentence("THINGS, at most 8, numbered as they come");
         for (int many = 0; many <= 8; many++) {
-            SaidSo x = Check.told(many("thing ", 'a', many, " 9 is 1;"));
+            SaidSo x = Check.told(Check.each("thing ", 'a', many, " 9 is 1;"));
             Check.due("things", x.count(0), many);
             for (int i = 0; i < 9; i++) {
                 Check.due("number of thing " + i, x.named(0, Check.letters("" + (char) ('a' + i))), i < many ? i : -1);
             }
         }
-        Check.fault(2, many("thing ", 'a', 8, " 9 is 1;") + "^thing i 9 is 1;");
-        Check.good(9, many("thing ", 'a', 8, " 9 is 1;") + TELLER);
+        Check.fault(2, Check.each("thing ", 'a', 8, " 9 is 1;") + "^thing i 9 is 1;");
+        Check.good(9, Check.each("thing ", 'a', 8, " 9 is 1;") + TELLER);
         // They come in the order of the text, not of the alphabet, with other LINES in between.
         SaidSo x = Check.told("thing b 3 is 1;" + TELLER + "thing a 4 is 2;");
         Check.due("ways of the first", x.look(0, 0), 3);
@@ -113,14 +105,14 @@ final class CaseBoundsTest {
     private static void manyTellers() {
         Check.sentence("TELLERS, at most 5, numbered as they come");
         for (int many = 0; many <= 5; many++) {
-            SaidSo x = Check.told(many("teller ", 'p', many, " 9 begins 5 ends 8;"));
+            SaidSo x = Check.told(Check.each("teller ", 'p', many, " 9 begins 5 ends 8;"));
             Check.due("tellers", x.count(1), many);
             for (int i = 0; i < 6; i++) {
                 Check.due("number of teller " + i, x.named(1, Check.letters("" + (char) ('p' + i))), i < many ? i : -1);
             }
         }
-        Check.fault(2, many("teller ", 'p', 5, " 9 begins 5 ends 8;") + "^teller z 9 begins 5 ends 8;");
-        Check.good(6, many("teller ", 'p', 5, " 9 begins 5 ends 8;") + THING);
+        Check.fault(2, Check.each("teller ", 'p', 5, " 9 begins 5 ends 8;") + "^teller z 9 begins 5 ends 8;");
+        Check.good(6, Check.each("teller ", 'p', 5, " 9 begins 5 ends 8;") + THING);
         SaidSo x = Check.told("teller q 3 begins 1 ends 2;" + THING + "teller p 4 begins 1 ends 2;");
         Check.due("age of the first", x.teller(0, 0), 3);
         Check.due("age of the second", x.teller(1, 0), 4);
@@ -307,8 +299,8 @@ final class CaseBoundsTest {
         Check.fault(1, "law 1 ^1000;");
         Check.fault(1, "^1000");
         Check.fault(1, HEAD + "page p ^1000;");
-        Check.fault(1, many("thing ", 'a', 8, " 2 is 0;") + "law 1 ^thing;");
-        Check.fault(1, many("teller ", 'p', 5, " 2 begins 0 ends 1;") + "law 1 ^teller;");
+        Check.fault(1, Check.each("thing ", 'a', 8, " 2 is 0;") + "law 1 ^thing;");
+        Check.fault(1, Check.each("teller ", 'p', 5, " 2 begins 0 ends 1;") + "law 1 ^teller;");
         Check.fault(1, HEAD + "ask p 5 a;".repeat(40) + "law 1 ^ask;");
         Check.fault(1, HEAD + "page p a 1;".repeat(20) + "law ^page;");
         Check.fault(1, "law ((((((((1^(1;");
@@ -349,16 +341,16 @@ final class CaseBoundsTest {
         Check.sentence("a ninth thing, a sixth teller, a 41st ask or say, a 21st page (at the word of the LINE)");
         // At the word, whatever comes behind it.
         for (String behind : new String[] {"", ";", " a", " !", " a 2 is 0;", " is", "99"}) {
-            Check.fault(2, many("thing ", 'a', 8, " 2 is 0;") + " ^thing" + behind);
-            Check.fault(2, many("teller ", 'p', 5, " 2 begins 0 ends 1;") + "\n^teller" + behind);
+            Check.fault(2, Check.each("thing ", 'a', 8, " 2 is 0;") + " ^thing" + behind);
+            Check.fault(2, Check.each("teller ", 'p', 5, " 2 begins 0 ends 1;") + "\n^teller" + behind);
             Check.fault(2, HEAD + "ask p 5 a;".repeat(40) + "^ask" + behind);
             Check.fault(2, HEAD + "ask p 5 a;".repeat(40) + "^say" + behind);
             Check.fault(2, HEAD + "say p 5 a 1;".repeat(40) + "^ask" + behind);
             Check.fault(2, HEAD + "page p a 1;".repeat(20) + "^page" + behind);
         }
         // All of a text ahead of it are gone.
-        SaidSo x = Check.told(many("thing ", 'a', 8, " 2 is 0;"));
-        Check.due("eight others", Check.tell(x, many("thing ", 'i', 8, " 2 is 0;")), 8);
+        SaidSo x = Check.told(Check.each("thing ", 'a', 8, " 2 is 0;"));
+        Check.due("eight others", Check.tell(x, Check.each("thing ", 'i', 8, " 2 is 0;")), 8);
         x = Check.told(HEAD + "ask p 5 a;".repeat(40));
         Check.due("forty others", Check.tell(x, HEAD + "ask p 5 a;".repeat(40)), 42);
     }
@@ -377,9 +369,12 @@ final class CaseBoundsTest {
         Check.good(1, "law ((((((((1)+(2)))))))) ;");
         Check.fault(2, "law ((((((((1)+(^(2");
         Check.good(1, "law (1)" + "+(1)".repeat(20) + ";");
-        // A text that ends with some open leaves none.
+        // A text that ends with some open leaves none, however many do so.
         SaidSo x = new SaidSo();
-        Check.due("eight open", Check.tell(x, "law (((((((("), -1);
+        for (int i = 0; i < 20; i++) {
+            Check.due("eight open", Check.tell(x, "law not not not not (((((((("), -1);
+            Check.due("the length", x.fault(1), 28);
+        }
         Check.due("eight more", Check.tell(x, "law " + eight + ";"), 1);
     }
 
@@ -407,6 +402,11 @@ final class CaseBoundsTest {
         Check.fault(2, open + "^1;");
         Check.fault(2, open + "^not 1;");
         Check.fault(2, open + "((^1));");
+        // All that can wait for what comes behind it: 64 knots and eight brackets.
+        Check.fault(2, "law " + "not ".repeat(64) + "((((((((^1");
+        Check.fault(2, "law " + "not ".repeat(64) + "((((((((^(");
+        Check.fault(2, "law " + "not (".repeat(8) + "not ".repeat(56) + "^1");
+        Check.good(1, "law " + "not (".repeat(8) + "not ".repeat(55) + "1" + ")".repeat(8) + ";");
         Check.good(1, full.replace("1+1", "(((1)))+1") + ";");
         // Of the whole text, not of an E alone.
         Check.good(3, "law 1" + "+1".repeat(15) + ";bar 1" + "+1".repeat(15) + ";jury not 1;");
@@ -423,7 +423,7 @@ final class CaseBoundsTest {
         Check.fault(3, "thing a 2 is 0;thing ^a 2 is 0;");
         Check.fault(3, "thing a 2 is 0;thing b 2 is 0;thing ^a");
         Check.good(2, "thing a 2 is 0;thing ab 2 is 0;");
-        Check.fault(3, many("thing ", 'a', 7, " 2 is 0;") + "thing ^g 2 is 0;");
+        Check.fault(3, Check.each("thing ", 'a', 7, " 2 is 0;") + "thing ^g 2 is 0;");
         Check.fault(3, TELLER + "teller ^p 9 begins 5 ends 8;");
         Check.fault(3, TELLER + "teller q 9 begins 5 ends 8;teller ^p !");
         Check.fault(3, "thing abcdef 2 is 0;thing ^abcdef 2 is 0;");

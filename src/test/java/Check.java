@@ -1,4 +1,5 @@
 import java.nio.charset.StandardCharsets;
+import java.util.NoSuchElementException;
 
 /** What the tests share: answers held against those that are due, and texts told to an object. */
 final class Check {
@@ -9,7 +10,7 @@ final class Check {
     private Check() {
     }
 
-    /** The sentence of the document, ahead of its promises, that the checks behind this are of; QuoteTest looks it up. */
+    /** The sentence of the document, out of its promises, that the checks behind this are of; QuoteTest looks it up. */
     static void sentence(String quote) {
         sentence = " [" + quote + "]";
     }
@@ -76,6 +77,24 @@ final class Check {
         due("tell '" + marked + "'", tell(x, text), -1);
         due("fault of '" + marked + "'", x.fault(0), fault);
         due("its place", x.fault(1), marked.indexOf('^'));
+    }
+
+    /** One piece for each of so many letters, with the letter in its midst. */
+    static String each(String head, char first, int many, String tail) {
+        StringBuilder text = new StringBuilder();
+        for (int i = 0; i < many; i++) {
+            text.append(head).append((char) (first + i)).append(tail);
+        }
+        return text.toString();
+    }
+
+    /** What look() answers; -10: it throws an IndexOutOfBoundsException, -11: a NoSuchElementException, of just that class. */
+    static int looked(SaidSo x, int thing, int what) {
+        try {
+            return x.look(thing, what);
+        } catch (IndexOutOfBoundsException | NoSuchElementException e) {
+            return e.getClass() == IndexOutOfBoundsException.class ? -10 : e.getClass() == NoSuchElementException.class ? -11 : -12;
+        }
     }
 
     static int letters(String name) {

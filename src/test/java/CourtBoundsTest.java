@@ -16,6 +16,7 @@ final class CourtBoundsTest {
         withoutPut();
         ofWays();
         inOrder();
+        lawOfEach();
         asGood();
         hoursAtWord();
         offAtWord();
@@ -207,12 +208,34 @@ final class CourtBoundsTest {
         }
     }
 
+    private static void lawOfEach() {
+        Check.sentence("below LAW");
+        // At hours 5 to 8 the law is 0, 30, 60 and 90; two of the four words are right, two of the values put are.
+        SaidSo x = Check.told(Check.each("thing ", 'a', 4, " 9 is 3;") + TALK
+                + "ask p 5 a 3;say p 5 a 1;ask p 6 b 4;say p 6 b 3;ask p 7 c 3;say p 7 c 5;ask p 8 d 2;say p 8 d 3;law hours * 30;");
+        int[] put = {3, 4, 3, 2};
+        int[] had = {0, 1, 1, 2};
+        for (int words = 1; words <= 4; words++) {
+            x.hear(4 + words);
+            long last = 31;
+            int good = 0;
+            for (int many = 1; many <= 99; many++) {
+                int drawn = 0;
+                for (int i = 0; i < words; i++) {
+                    last = next(last);
+                    boolean follows = last / 65536 % 100 < i * 30;
+                    last = follows ? last : next(last);
+                    drawn += (follows ? put[i] : last / 65536 % 9) == 3 ? 1 : 0;
+                }
+                good += drawn >= had[words - 1] ? 1 : 0;
+                Check.due(words + " words, draws(0, 31, " + many + ")", x.draws(0, 31, many), good);
+            }
+        }
+    }
+
     private static void asGood() {
         Check.sentence("He is as good in a draw with as many RIGHT as he had in FIRST WORDS.");
-        StringBuilder things = new StringBuilder();
-        for (char c = 'a'; c < 'i'; c++) {
-            things.append("thing ").append(c).append(" 2 is 1;");
-        }
+        String things = Check.each("thing ", 'a', 8, " 2 is 1;");
         // None said, none right, one, and as many as there may be, worked out number by number.
         for (int words = 0; words <= 8; words++) {
             for (int right = 0; right <= words; right++) {
@@ -238,6 +261,9 @@ final class CourtBoundsTest {
         SaidSo x = Check.told(HEAD + "say p 6 a 2;");
         x.hear(5);
         Check.due("nothing heard", x.draws(0, 11, 30), 30);
+        // A word at the first hour of all is first, and none behind it.
+        x = Check.told("thing a 4 is 2;teller p 9 begins 0 ends 9;say p 0 a 2;say p 0 a 1;say p 9 a 1;");
+        Check.due("one first word", x.draws(0, 11, 99), byChance(4, 2, 11, 99));
     }
 
     private static int atWord(String name, String talk, String lines, int line) {
@@ -342,6 +368,9 @@ final class CourtBoundsTest {
         names(text, 2, 6, 9, 3, 4, 2, 1, 1, 1, 1, 0, 0);
         names(text, 2, 7, 9, 3, 4, 2, 1, 2, 1, 2, 0, 0);
         names(text, 2, 8, 9, 3, 4, 3, 2, 2, 1, 2, 0, 0);
+        // At the first hour of all.
+        names("thing a 4 is 2;teller p 9 begins 0 ends 9;ask p 0 a 2;say p 0 a 2;say p 0 a 1;", 2, 0, 9, 9, 10, 1, 1, 1, 0, 1, 0, 0);
+        names("thing a 4 is 2;teller p 9 begins 0 ends 9;ask p 0 a 2;say p 0 a 2;say p 9 a 1;", 2, 199, 9, 9, 10, 1, 1, 1, 0, 1, 0, 0);
         // Right, but known to the police or in the paper by then: not new.
         names("thing a 4 is 2 police 5;" + TALK + "say p 5 a 2;", 2, 199, 9, 3, 4, 0, 0, 1, 0, 0, 0, 0);
         names("thing a 4 is 2 paper 5;" + TALK + "say p 5 a 2;", 2, 199, 9, 3, 4, 0, 0, 1, 0, 0, 0, 0);
@@ -436,6 +465,14 @@ final class CourtBoundsTest {
             }
         }
         worth("512*512*512*32-512*512*512*32+7", 7);
+        for (int a = -3; a <= 3; a++) {
+            for (int b = -3; b <= 3; b++) {
+                String pair = (a < 0 ? "(0-" + -a + ")" : "" + a) + "%" + (b < 0 ? "(0-" + -b + ")" : "" + b);
+                worth(pair.replace('%', '*'), a * b);
+                worth(pair.replace('%', '+'), a + b);
+                worth(pair.replace('%', '-'), a - b);
+            }
+        }
     }
 
     private static void quotients() {
@@ -496,6 +533,8 @@ final class CourtBoundsTest {
         Check.due("0*10^12=0", jury("0*(" + most + ")=0"), 1);
         Check.due("2^32*2^32=0", jury("(512*512*512*32)*(512*512*512*32)=0"), 0);
         Check.due("2^32*2^31<0", jury("(512*512*512*32)*(512*512*512*16)<0"), 0);
+        Check.due("2^39*2^25=0", jury("(512*512*512*512*8)*(512*512*128)=0"), 0);
+        Check.due("2^25*2^39=0", jury("(512*512*128)*(512*512*512*512*8)=0"), 0);
         Check.due("10^12*10^12<>0", jury("(" + most + ")*(" + most + ")<>0"), 0);
         Check.due("10^12*-10^12<>0", jury("(" + most + ")*(0-" + most + ")<>0"), 0);
         Check.due("not (10^12+1)", jury("not (" + most + "+1)"), 0);

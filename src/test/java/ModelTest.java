@@ -1,7 +1,6 @@
 import java.nio.charset.StandardCharsets;
 import java.util.ArrayList;
 import java.util.List;
-import java.util.NoSuchElementException;
 import java.util.Random;
 
 /** All promises: cases and calls by chance (of fixed seeds), each answer held against that of the plain Model. */
@@ -14,6 +13,7 @@ final class ModelTest {
     private final SaidSo x = new SaidSo();
     private final Model m = new Model();
     private int good = 0;
+    private int full = 0;
 
     private ModelTest(long seed) {
         chance = new Random(seed);
@@ -22,13 +22,16 @@ final class ModelTest {
     public static void main(String[] args) {
         int good = 0;
         int faults = 0;
+        int full = 0;
         for (int run = 0; run < RUNS; run++) {
             ModelTest test = new ModelTest(run);
             test.run();
             good += test.good;
+            full += test.full;
             faults += test.m.fault == 0 ? 0 : 1;
         }
-        System.out.println(good + " cases without a fault, " + faults + " runs that end with one");
+        System.out.println(good + " cases without a fault, " + faults + " runs that end with one, " + full + " with sixty talk lines");
+        Check.due("enough cases are full", full > 20, true);
         Check.due("enough cases are good", good > RUNS / 2, true);
         Check.due("enough cases are not", faults > RUNS / 4, true);
         Check.end();
@@ -44,7 +47,7 @@ final class ModelTest {
 
     private void run() {
         for (int i = 0; i < 3; i++) {
-            StringBuilder text = new StringBuilder(caseText());
+            StringBuilder text = new StringBuilder(oneIn(4) ? edgeText() : caseText());
             if (oneIn(2)) {
                 spoil(text);
             }
@@ -53,6 +56,7 @@ final class ModelTest {
                 good++;
             }
             changes();
+            full += m.c.lines.size() == 60 ? 1 : 0;
             askAll();
         }
     }
@@ -114,6 +118,42 @@ final class ModelTest {
             text.append(oneIn(4) ? "" : kind + formula(kind.equals("law ") ? 2 : 3) + ";");
         }
         return text.length() > 800 ? caseText() : text.toString();
+    }
+
+    /** A text with about as many of one kind as there may be, in which HOURS are near the first or the last of all. */
+    private String edgeText() {
+        int most = upTo(4);
+        int things = most == 0 ? 7 + upTo(2) : 1 + upTo(2);
+        int tellers = most == 1 ? 4 + upTo(2) : 1 + upTo(1);
+        int lines = most == 2 ? 39 + upTo(2) : upTo(12);
+        int pages = most == 3 ? 19 + upTo(2) : upTo(6);
+        StringBuilder text = new StringBuilder();
+        for (int i = 0; i < things; i++) {
+            text.append("thing ").append((char) ('a' + i)).append(oneIn(2) ? " 2is1" : " 9is8");
+            text.append(oneIn(2) ? "police" + edgeHour() : "").append(oneIn(3) ? "paper" + edgeHour() : "").append(';');
+        }
+        for (int i = 0; i < tellers; i++) {
+            int from = upTo(1) * 198;
+            text.append("teller ").append((char) ('p' + i)).append(oneIn(2) ? " 1" : " 99").append("begins").append(from).append("ends").append(oneIn(2) ? 199 : from + 1);
+            text.append(oneIn(3) ? "" : "tape" + (from + upTo(1))).append(';');
+        }
+        for (int i = 0; i < lines; i++) {
+            text.append(oneIn(3) ? "ask " : "say ").append((char) ('p' + upTo(tellers - 1))).append(i < lines / 2 && oneIn(9) ? 198 : 199);
+            text.append((char) ('a' + upTo(things - 1))).append(upTo(1)).append(';');
+        }
+        for (int i = 0; i < pages; i++) {
+            text.append("page ").append((char) ('p' + upTo(tellers - 1))).append(' ').append((char) ('a' + upTo(things - 1))).append(upTo(1)).append(';');
+        }
+        text.append("law").append(oneIn(2) ? " asks*9" : "100-1").append(";bar").append(oneIn(2) ? " off>199" : " put>0").append(";jury(1)");
+        for (int i = 0; most == 4 && i < 24 + upTo(3); i++) {
+            text.append(oneIn(2) ? "+1" : "*2");
+        }
+        text.append(oneIn(4) ? "/0" : "").append(';');
+        return text.length() > 800 ? edgeText() : text.toString();
+    }
+
+    private int edgeHour() {
+        return oneIn(20) ? 200 : new int[] {0, 1, 197, 198, 199}[upTo(4)];
     }
 
     private String formula(int depth) {
@@ -182,6 +222,14 @@ final class ModelTest {
                 Check.due("undo()", x.undo(), m.undo());
             }
         }
+        for (int i = upTo(9) * 7; i > 20; i--) {
+            // Up to sixty lines and beyond, at the last hours of the talks.
+            boolean word = oneIn(2);
+            int teller = upTo(1);
+            int thing = upTo(1);
+            int hour = m.teller(teller, 2);
+            Check.due("say at " + hour, x.say(word, teller, hour, thing, i % 2), m.say(word, teller, hour, thing, i % 2));
+        }
         if (oneIn(2)) {
             int hour = oneIn(5) ? upTo(400) - 100 : upTo(12);
             Check.due("hear(" + hour + ")", x.hear(hour), m.hear(hour));
@@ -195,21 +243,11 @@ final class ModelTest {
         Check.due("there(" + who + ")", x.there(who), m.there(who));
     }
 
-    private int looked(int thing, int what) {
-        try {
-            return x.look(thing, what);
-        } catch (IndexOutOfBoundsException e) {
-            return -10;
-        } catch (NoSuchElementException e) {
-            return -11;
-        }
-    }
-
     private void askAll() {
         for (int i = -1; i < 10; i++) {
             Check.due("count(" + i + ")", x.count(i), m.count(i));
             for (int what = -1; what < 6; what++) {
-                Check.due("look(" + i + ", " + what + ")", looked(i, what), m.look(i, what));
+                Check.due("look(" + i + ", " + what + ")", Check.looked(x, i, what), m.look(i, what));
                 Check.due("teller(" + i + ", " + what + ")", x.teller(i, what), m.teller(i, what));
             }
         }
@@ -219,7 +257,7 @@ final class ModelTest {
         for (String name : TELLERS) {
             Check.due("named(1, " + name + ")", x.named(1, Check.letters(name)), m.named(1, Check.letters(name)));
         }
-        for (int line = -1; line < 42; line++) {
+        for (int line = -1; line < 62; line++) {
             for (int what = -1; what < 6; what++) {
                 Check.due("line(" + line + ", " + what + ")", x.line(line, what), m.line(line, what));
             }

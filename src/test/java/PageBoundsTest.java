@@ -80,15 +80,8 @@ final class PageBoundsTest {
         x.hear(0);
         odds(x, 0, 81, 10);
         // As many as there may be: one of each thing.
-        StringBuilder text = new StringBuilder();
-        for (char c = 'a'; c < 'i'; c++) {
-            text.append("thing ").append(c).append(" 2 is 0;");
-        }
-        text.append(TALK);
-        for (int i = 0; i < 20; i++) {
-            text.append("page p ").append((char) ('a' + i % 8)).append(i < 8 ? " 0;" : " 1;");
-        }
-        odds(Check.told(text.toString()), 0, 43046721, 390625);
+        odds(Check.told(Check.each("thing ", 'a', 8, " 2 is 0;") + TALK + Check.each("page p ", 'a', 8, " 0;") + Check.each("page p ", 'a', 8, " 1;")
+                + Check.each("page p ", 'a', 4, " 1;")), 0, 43046721, 390625);
     }
 
     private static void left(String text, int want) {
@@ -227,12 +220,7 @@ final class PageBoundsTest {
         clash("say p 1 a 1;say q 1 a 0;say p 1 b 1;say q 1 b 0;", 2);
         clash("say p 1 a 1;say q 1 a 0;say p 2 a 0;", 0);
         clash("say p 1 a 1;say q 1 a 1;say p 2 a 0;", 1);
-        StringBuilder text = new StringBuilder();
-        for (char c = 'a'; c < 'i'; c++) {
-            text.append("thing ").append(c).append(" 2 is 0;");
-        }
-        text.append(TALK);
-        SaidSo x = Check.told(text.toString());
+        SaidSo x = Check.told(Check.each("thing ", 'a', 8, " 2 is 0;") + TALK);
         for (int thing = 0; thing < 8; thing++) {
             x.say(true, 0, 5, thing, 0);
             Check.due("clash(0, 1)", x.clash(0, 1), thing);
@@ -289,11 +277,7 @@ final class PageBoundsTest {
 
     private static void liesMost() {
         Check.sentence("the fewest WORDS of their STORIES to leave out");
-        StringBuilder text = new StringBuilder();
-        for (char c = 'a'; c < 'i'; c++) {
-            text.append("thing ").append(c).append(" 9 is 0;");
-        }
-        SaidSo x = Check.told(text + FIVE);
+        SaidSo x = Check.told(Check.each("thing ", 'a', 8, " 9 is 0;") + FIVE);
         for (int i = 0; i < 40; i++) {
             x.say(true, i % 5, 5, i / 5, i % 5 + 4);
         }

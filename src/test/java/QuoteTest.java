@@ -23,7 +23,7 @@ final class QuoteTest {
         int promises = doc.indexOf("## Promise 1:");
         int rest = doc.indexOf("## Not promised");
         Check.due("the document has promises", promises > 0 && rest > promises, true);
-        section(0, doc.substring(0, promises), terms(doc.substring(0, promises)), quotes);
+        section(0, doc.substring(0, promises) + doc.substring(rest), terms(doc.substring(0, promises)), quotes);
         String[] parts = doc.substring(promises, rest).split("(?m)^## Promise \\d+: .*$");
         Check.due("promises", parts.length - 1, 32);
         for (int number = 1; number < parts.length; number++) {

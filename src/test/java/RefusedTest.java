@@ -1,4 +1,3 @@
-import java.util.NoSuchElementException;
 import java.util.function.Consumer;
 
 /**
@@ -116,11 +115,13 @@ final class RefusedTest {
             State.same("'" + text + "' twice", withoutFault(State.of(y)), withoutFault(State.of(z)));
             Check.due("undo", y.undo(), 1);
             // A good text behind it is read as by a new object, but for TRUTH and the ODDS to begin with.
-            Check.tell(y, TEXT);
+            SaidSo again = made();
+            Check.tell(again, text);
+            Check.tell(again, TEXT);
             SaidSo fresh = Check.told(TEXT);
             fresh.truth(7);
             fresh.begin(3, 5);
-            State.same("'" + text + "' and a good text", State.of(y), State.of(fresh));
+            State.same("'" + text + "' and a good text", State.of(again), State.of(fresh));
         }
     }
 
@@ -132,15 +133,8 @@ final class RefusedTest {
         Check.promise(6, "IndexOutOfBoundsException: no such THING. NoSuchElementException: no such what.");
         int[][] bad = {{3, 0}, {-1, 0}, {MAX, 3}, {MIN, 0}, {0, 4}, {2, -1}, {0, MAX}, {0, MIN}, {3, 4}};
         for (int[] pair : bad) {
-            stays("look(" + pair[0] + ", " + pair[1] + ")", x -> {
-                boolean thrown = false;
-                try {
-                    x.look(pair[0], pair[1]);
-                } catch (IndexOutOfBoundsException | NoSuchElementException e) {
-                    thrown = true;
-                }
-                Check.due("look throws", thrown, true);
-            });
+            int thrown = pair[0] < 0 || pair[0] > 2 ? -10 : -11;
+            stays("look(" + pair[0] + ", " + pair[1] + ")", x -> Check.due("look", Check.looked(x, pair[0], pair[1]), thrown));
         }
     }
 
@@ -232,7 +226,7 @@ final class RefusedTest {
 
     /** Calls that ask for what there isn't. */
     private static void asks() {
-        Check.sentence("HEARD: only TALK LINES up to an HOUR are there (199 at first: all).");
+        Check.sentence("Nothing is promised beyond the answers and state changes described above");
         int[] none = {MIN, -1, 99, 200, MAX};
         for (int no : none) {
             stays("calls with " + no, x -> {
@@ -267,7 +261,7 @@ final class RefusedTest {
 
     /** Calls that are answered, but only ask. */
     private static void answers() {
-        Check.sentence("DRAWS: numbers are the last one (at first the seed) times 1103515245 and 12345, without what is above 31 bits.");
+        Check.sentence("Nothing is promised beyond the answers and state changes described above");
         stays("draws", x -> {
             x.draws(0, 1, 99);
             x.draws(1, MAX, 99);

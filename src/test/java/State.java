@@ -1,5 +1,3 @@
-import java.util.NoSuchElementException;
-
 /** All that an object answers to calls that change nothing, in a text: a line for each call. */
 final class State {
     private final SaidSo x;
@@ -42,22 +40,12 @@ final class State {
     private void ofThings() {
         for (int thing = 0; thing <= things; thing++) {
             for (int what = 0; what < 4; what++) {
-                add("look(" + thing + ", " + what + ")", looked(thing, what));
+                add("look(" + thing + ", " + what + ")", Check.looked(x, thing, what));
             }
         }
         for (String name : new String[] {"a", "b", "c", "p", "q", "z"}) {
             add("named(0, " + name + ")", x.named(0, Check.letters(name)));
             add("named(1, " + name + ")", x.named(1, Check.letters(name)));
-        }
-    }
-
-    private int looked(int thing, int what) {
-        try {
-            return x.look(thing, what);
-        } catch (IndexOutOfBoundsException e) {
-            return -10;
-        } catch (NoSuchElementException e) {
-            return -11;
         }
     }
 

@@ -1,5 +1,3 @@
-import java.util.NoSuchElementException;
-
 /** Promises 6 to 14: look, teller, line, say, undo, hear, word, led, words. */
 final class TalkTest {
     private static final int RIGHT = 1;
@@ -25,17 +23,6 @@ final class TalkTest {
         Check.end();
     }
 
-    private static int thrown(SaidSo x, int thing, int what) {
-        try {
-            x.look(thing, what);
-            return 0;
-        } catch (IndexOutOfBoundsException e) {
-            return 1;
-        } catch (NoSuchElementException e) {
-            return 2;
-        }
-    }
-
     private static void looking() {
         SaidSo x = Check.told("thing a 4 is 2;thing b 9 is 8 police 3 paper 7;");
         long[] a = {4, 2, -1, -1};
@@ -44,12 +31,12 @@ final class TalkTest {
             Check.due("look(0, " + what + ")", x.look(0, what), a[what]);
             Check.due("look(1, " + what + ")", x.look(1, what), b[what]);
         }
-        Check.due("look(2, 0)", thrown(x, 2, 0), 1);
-        Check.due("look(-1, 0)", thrown(x, -1, 0), 1);
-        Check.due("look(-1, 9)", thrown(x, -1, 9), 1);
-        Check.due("look(0, 4)", thrown(x, 0, 4), 2);
-        Check.due("look(0, -1)", thrown(x, 0, -1), 2);
-        Check.due("look(0, 0) of a new object", thrown(new SaidSo(), 0, 0), 1);
+        Check.due("look(2, 0)", Check.looked(x, 2, 0), -10);
+        Check.due("look(-1, 0)", Check.looked(x, -1, 0), -10);
+        Check.due("look(-1, 9)", Check.looked(x, -1, 9), -10);
+        Check.due("look(0, 4)", Check.looked(x, 0, 4), -11);
+        Check.due("look(0, -1)", Check.looked(x, 0, -1), -11);
+        Check.due("look(0, 0) of a new object", Check.looked(new SaidSo(), 0, 0), -10);
     }
 
     private static void tellers() {

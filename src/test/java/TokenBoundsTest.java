@@ -142,15 +142,9 @@ final class TokenBoundsTest {
         Check.fault(1, "law 1;^x;");
         Check.fault(1, "law 1;^1;");
         // As many LINES of each kind as there may be.
-        StringBuilder text = new StringBuilder();
-        for (char c = 'a'; c < 'i'; c++) {
-            text.append("thing ").append(c).append(" 2is0;");
-        }
-        for (char c = 'a'; c < 'f'; c++) {
-            text.append("teller ").append(c).append(" 9begins0ends0;");
-        }
-        text.append("ask a0a;".repeat(40)).append("page a a0;".repeat(20)).append("law1;bar1;jury1;");
-        Check.good(76, text.toString());
+        String text = Check.each("thing ", 'a', 8, " 2is0;") + Check.each("teller ", 'a', 5, " 9begins0ends0;")
+                + "ask a0a;".repeat(40) + "page a a0;".repeat(20) + "law1;bar1;jury1;";
+        Check.good(76, text);
         Check.good(76, text + "\n".repeat(800 - text.length()));
         Check.fault(1, text + "\n".repeat(799 - text.length()) + "^!");
     }
@@ -365,5 +359,27 @@ final class TokenBoundsTest {
         Check.due("tell(27)", x.tell(27), -1);
         Check.due("fault", x.fault(0), 1);
         Check.due("place", x.fault(1), 27);
+        // Cut in the midst of a word, a number, a sign or blanks: what was fed behind doesn't go on with it.
+        String text = HEAD + "say p 0008 a 003;law (age<=100) and   999<>1;";
+        int talk = HEAD.length() + "say p 0008 a 003;".length();
+        for (int n = talk + 4; n < text.length(); n++) {
+            x = new SaidSo();
+            Check.feed(x, text);
+            Check.due("tell(" + n + ")", x.tell(n), -1);
+            Check.due("fault", x.fault(0), 1);
+            int place = n;
+            for (String word : new String[] {"age", "and"}) {
+                // A part of it is another word, which can't stand there.
+                int at = text.indexOf(word);
+                place = n > at && n < at + 3 ? at : place;
+            }
+            Check.due("place", x.fault(1), place);
+        }
+        for (int n = HEAD.length() + 13; n < talk; n++) {
+            x = new SaidSo();
+            Check.feed(x, text);
+            Check.due("tell(" + n + ")", x.tell(n), -1);
+            Check.due("place", x.fault(1), n);
+        }
     }
 }

@@ -58,6 +58,11 @@ final class WordBoundsTest {
         bit(HEAD + "say q 5 a 1;say p 5 a 1;", 1, FIRST, true);
         bit(HEAD + "ask p 5 a 1;say p 5 a 1;", 1, FIRST, true);
         bit(HEAD + "say p 5 a 1;say q 5 a 1;say p 5 b 1;ask p 5 a;say p 9 a 1;", 4, FIRST, false);
+        // At the first hour of all, too.
+        String early = "thing a 4 is 2;teller p 9 begins 0 ends 9;";
+        bit(early + "say p 0 a 1;", 0, FIRST, true);
+        bit(early + "say p 0 a 1;say p 0 a 1;", 1, FIRST, false);
+        bit(early + "say p 0 a 1;say p 9 a 1;", 1, FIRST, false);
         // The first of all lines and the last that there may be.
         SaidSo x = Check.told(HEAD);
         for (int i = 0; i < 60; i++) {
@@ -80,6 +85,7 @@ final class WordBoundsTest {
         bit(HEAD + "ask p 5 b 1;say p 5 a 1;", 1, LED, false);
         bit(HEAD + "ask q 5 a 1;say p 5 a 1;", 1, LED, false);
         bit(HEAD + "say p 5 a 1;say p 5 a 1;", 1, LED, false);
+        bit("thing a 4 is 2;teller p 9 begins 0 ends 9;ask p 0 a 1;say p 0 a 1;", 1, LED, true);
         // Long ahead of it, with others in between; the right one too.
         bit(HEAD + "ask p 5 a 2;ask p 6 a 1;say p 7 a 1;ask p 8 a;say p 9 a 2;", 4, LED, true);
     }
@@ -227,11 +233,7 @@ final class WordBoundsTest {
         // None, one, and as many as there may be: one of each thing.
         SaidSo x = Check.told(HEAD);
         odds(x, 0, 0, 1, 1);
-        StringBuilder things = new StringBuilder();
-        for (char c = 'a'; c < 'i'; c++) {
-            things.append("thing ").append(c).append(" 2 is 0;");
-        }
-        x = Check.told(things + TALK);
+        x = Check.told(Check.each("thing ", 'a', 8, " 2 is 0;") + TALK);
         long there = 1;
         long not = 1;
         for (int thing = 0; thing < 8; thing++) {
@@ -284,15 +286,7 @@ final class WordBoundsTest {
         x.begin(5, 9);
         odds(x, 0, 0, 2, 1);
         // The largest numbers that can come.
-        StringBuilder text = new StringBuilder();
-        for (char c = 'a'; c < 'i'; c++) {
-            text.append("thing ").append(c).append(" 9 is 0;");
-        }
-        text.append(TALK);
-        for (char c = 'a'; c < 'i'; c++) {
-            text.append("say p 5 ").append(c).append(" 0;say q 5 ").append(c).append(" 1;");
-        }
-        x = Check.told(text.toString());
+        x = Check.told(Check.each("thing ", 'a', 8, " 9 is 0;") + TALK + Check.each("say p 5 ", 'a', 8, " 0;") + Check.each("say q 5 ", 'a', 8, " 1;"));
         x.begin(99, 97);
         BigInteger top = BigInteger.valueOf(81).pow(8).multiply(BigInteger.valueOf(99));
         BigInteger low = BigInteger.TEN.pow(8).multiply(BigInteger.valueOf(97));
