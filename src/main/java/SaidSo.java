@@ -852,8 +852,9 @@ public final class SaidSo {
 
     /** An E as its KNOTS, each behind those that it works on; none: there is no such LINE. */
     private static final class Formula {
-        private static final long ERROR = Long.MIN_VALUE;
         private static final long MOST_VALUE = 1000000000000L;
+        // Beyond all that may be a value, so that it is never one.
+        private static final long ERROR = -4000000000000000000L;
 
         private int many = 0;
         private final int[] knot = new int[MOST_KNOTS];

@@ -25,6 +25,8 @@ final class FaceTest {
         "\\bSystem\\b", "\\bRandom\\b", "\\bThread\\b", "Exact\\b", "\\bhashCode\\b", "\\btoString\\b", "static \\{",
         "\\bnull\\b", "\\bprotected\\b", "\\bdouble\\b", "\\bfloat\\b"};
 
+    private static final List<String> LIBRARY = List.of("Integer.bitCount", "Math.abs", "Math.max", "Math.min");
+
     public static void main(String[] args) throws IOException {
         face();
         ownMembers(SaidSo.class);
@@ -111,12 +113,22 @@ final class FaceTest {
         }
         Check.due("throws", all(code, "\\bthrow new \\w+\\(\"[a-z ]*\"\\);"), all(code, "\\bthrow\\b"));
         Check.due("imports", all(code, "\\bimport\\b"), 1);
+        library(code);
         // A method's closing brace stands where the method begins.
         Matcher m = Pattern.compile("(?ms)^( {4}| {8})(?:private|public)[^;={]*\\{\n(.*?)^\\1\\}").matcher(code);
         while (m.find()) {
             if (!m.group().contains(" class ")) {
                 Check.due("a method is short: " + m.group().trim().split("\n")[0], m.group(2).split("\n").length <= 60, true);
             }
+        }
+    }
+
+    /** Rule 4: of the library's classes only functions over int and long, and no constants of theirs. */
+    private static void library(String code) {
+        Matcher m = Pattern.compile("\\b(Integer|Long|Short|Byte|Character|Boolean|Math|Arrays|String|List)\\s*\\.\\s*(\\w+)(\\()?").matcher(code);
+        while (m.find()) {
+            String used = m.group(1) + "." + m.group(2);
+            Check.due("the library has " + used, m.group(3) != null && LIBRARY.contains(used), true);
         }
     }
 
