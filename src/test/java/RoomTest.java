@@ -19,6 +19,7 @@ final class RoomTest {
         SaidSo x = new SaidSo();
         Set<Object> first = Collections.newSetFromMap(new IdentityHashMap<>());
         int elements = walk(x, first);
+        System.out.println(first.size() + " objects and arrays, " + elements + " fields and elements");
         Check.due(first.size() + " objects are few", first.size() <= MOST_OBJECTS, true);
         Check.due(elements + " fields and elements are few", elements <= MOST_ELEMENTS, true);
         use(x);
